@@ -1552,6 +1552,9 @@ public final class WhoseDay {
             if (day < 0 || day >= DAYS) {
                 return knowing;
             }
+            if ((napsOn[day] | talksOn[day]) == 0) {
+                return byItself(knowing, day);
+            }
             return byTalks(byNaps(byItself(knowing, day), day), day, 0, MOST_ROWS);
         }
 
@@ -1641,11 +1644,14 @@ public final class WhoseDay {
             for (int day = factDay; day < DAYS; day++) {
                 int ahead = byDay(knowing, day);
                 int behind = byNight(ahead, day);
-                if (behind == knowing && isStill(knowing)) {
+                if (ahead != knowing) {
+                    moments = withMoment(moments, ahead & ~knowing, 2 * day);
+                }
+                if (behind != ahead) {
+                    moments = withMoment(moments, behind & ~ahead, 2 * day + 1);
+                } else if (ahead == knowing && isStill(knowing)) {
                     return moments;
                 }
-                moments = withMoment(moments, ahead & ~knowing, 2 * day);
-                moments = withMoment(moments, behind & ~ahead, 2 * day + 1);
                 knowing = behind;
             }
             return moments;
@@ -1664,13 +1670,14 @@ public final class WhoseDay {
 
         /** Whether no later day can bring the fact to anybody else. */
         private boolean isStill(int knowing) {
-            for (int person = 0; person < MOST_PEOPLE; person++) {
+            boolean isDreamt = isByNights || isByNaps;
+            for (int person = 0; isDreamt && person < MOST_PEOPLE; person++) {
                 boolean isKnown = (knowing >> person & 1) != 0;
                 if (isKnown && (dreamerBits[person] & ~knowing) != 0) {
                     return false;
                 }
             }
-            for (int i = 0; i < town.talks.size && i < talkers.length; i++) {
+            for (int i = 0; isByTalks && i < town.talks.size && i < talkers.length; i++) {
                 int both = knowing & talkers[i];
                 if (both != 0 && both != talkers[i]) {
                     return false;
@@ -1830,21 +1837,33 @@ public final class WhoseDay {
             size = needed;
         }
 
-        private void findComings(int fact) {
+        /** Finds, for facts as bits, when each comes to whom, but for those found before. */
+        private void findComings(int facts) {
             listTurnings();
-            if (!town.isFact(fact) || (found >> fact & 1) != 0) {
+            int missing = facts & ~found & (1 << town.facts.size) - 1;
+            if (missing == 0) {
                 return;
             }
-            if (moments[fact].length < size) {
-                moments[fact] = new long[roomFor(moments[fact].length, size)];
+            for (int fact = 0; fact < MOST_FACTS; fact++) {
+                int had = moments[fact].length;
+                if ((missing >> fact & 1) != 0 && had < size) {
+                    moments[fact] = new long[roomFor(had, size)];
+                }
             }
-            long[] line = moments[fact];
-            spread.setFact(fact, ALL_WAYS, 0);
-            for (int i = 0; i < size && i < rows.length && i < line.length; i++) {
-                spread.setTurning(rows[i]);
-                line[i] = spread.comings();
+            for (int turning = 0; turning < size && turning < rows.length; turning++) {
+                spread.setTurning(rows[turning]);
+                findComingsBy(turning, missing);
             }
-            found |= 1 << fact;
+            found |= missing;
+        }
+
+        private void findComingsBy(int turning, int facts) {
+            for (int fact = 0; fact < MOST_FACTS && facts >> fact != 0; fact++) {
+                if ((facts >> fact & 1) != 0 && turning < moments[fact].length) {
+                    spread.setFact(fact, ALL_WAYS, 0);
+                    moments[fact][turning] = spread.comings();
+                }
+            }
         }
 
         private long[] lineOf(int fact) {
@@ -1859,12 +1878,13 @@ public final class WhoseDay {
         }
 
         void findFitting(int step) {
-            listTurnings();
             int known = acts.knownAt(step);
+            int facts = 0;
             for (int i = 0; i < known && i < values.length; i++) {
                 values[i] = acts.knewAt(i, step);
-                findComings(acts.facts[i]);
+                facts |= 1 << acts.facts[i];
             }
+            findComings(facts);
             fittingSize = 0;
             for (int turning = 0; turning < size && turning < fitting.length; turning++) {
                 if (isFitting(turning, known)) {
@@ -1909,7 +1929,7 @@ public final class WhoseDay {
         }
 
         int surelyKnowing(int fact, int day) {
-            findComings(fact);
+            findComings(1 << fact);
             int bits = fittingSize > 0 ? (1 << town.people) - 1 : 0;
             for (int i = 0; i < fittingSize && i < fitting.length; i++) {
                 bits &= knowingBehind(fact, fitting[i], day);
@@ -1918,7 +1938,7 @@ public final class WhoseDay {
         }
 
         int perhapsKnowing(int fact, int day) {
-            findComings(fact);
+            findComings(1 << fact);
             int bits = 0;
             for (int i = 0; i < fittingSize && i < fitting.length; i++) {
                 bits |= knowingBehind(fact, fitting[i], day);
@@ -1938,7 +1958,7 @@ public final class WhoseDay {
         }
 
         int knowingInAll(int fact, int day) {
-            findComings(fact);
+            findComings(1 << fact);
             int sum = 0;
             for (int turning = 0; turning < size; turning++) {
                 sum += Integer.bitCount(knowingBehind(fact, turning, day));
@@ -1947,7 +1967,7 @@ public final class WhoseDay {
         }
 
         int turningsOfAll(int fact, int day) {
-            findComings(fact);
+            findComings(1 << fact);
             int many = 0;
             for (int turning = 0; turning < size; turning++) {
                 if (dayOfAll(fact, turning) <= day) {
@@ -1958,7 +1978,7 @@ public final class WhoseDay {
         }
 
         int firstDaysInAll(int fact) {
-            findComings(fact);
+            findComings(1 << fact);
             int sum = 0;
             for (int turning = 0; turning < size; turning++) {
                 sum += dayOfAll(fact, turning);
@@ -1984,10 +2004,8 @@ public final class WhoseDay {
             askPerson = NONE;
             askFact = NONE;
             askDay = NONE;
+            findComings((1 << MOST_FACTS) - 1);
             findFitting(step);
-            for (int fact = 0; fact < town.facts.size; fact++) {
-                findComings(fact);
-            }
             int least = fittingSize;
             for (int person = 0; person < town.people; person++) {
                 for (int fact = 0; fact < town.facts.size; fact++) {
