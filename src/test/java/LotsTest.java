@@ -50,6 +50,11 @@ public final class LotsTest {
         // one ring of all eight in 5040 of 14833 turnings
         share(c, eight, 0, 6, 1, 5040 / 7, 14833 / 7);
         share(c, eight, 0, 0, 0, 2, 1);
+        // a smaller town behind it
+        Check.town(eight, "person a;person b;person c;person d;fact a 3;");
+        share(c, eight, 0, 4, 0, 8, 3);
+        share(c, eight, 0, 5, 1, 2, 3);
+        c.due("lotDay(0) of the smaller", eight.lotDay(0, false), 38);
     }
 
     private static void ringLengths(Check c) {

@@ -14,8 +14,11 @@ public final class RandomTest {
 
     public static void main(String[] args) {
         Check c = new Check();
+        WhoseDay x = new WhoseDay();
         for (int i = 0; i < 700; i++) {
-            new RandomTest(c, i).oneTown(i % 100 == 99 ? 8 : i % 25 == 24 ? 7 : 2 + i % 5);
+            // every third object is used for another town, so that nothing of the former may show
+            x = i % 3 == 0 ? x : new WhoseDay();
+            new RandomTest(c, i).oneTown(x, i % 100 == 98 ? 8 : i % 25 == 23 ? 7 : 2 + i % 5);
         }
         for (int i = 0; i < 6000; i++) {
             new RandomTest(c, 1000000 + i).oneSpoiltText();
@@ -64,14 +67,13 @@ public final class RandomTest {
         }
     }
 
-    private void oneTown(int people) {
+    private void oneTown(WhoseDay x, int people) {
         String text = townText(people);
         Model m = Model.read(text);
         for (int i = 0; i < 400 && m.faultKind != 0; i++) {
             text = townText(people);
             m = Model.read(text);
         }
-        WhoseDay x = new WhoseDay();
         c.due("town() of " + text, Check.town(x, text), m.faultKind == 0 ? m.clauses : -1);
         if (m.faultKind != 0) {
             c.due("fault(0) of " + text, x.fault(0), m.faultKind);
