@@ -1534,11 +1534,11 @@ public final class WhoseDay {
 
         /** By those talks of the day whose numbers are from the first up to below the last. */
         private int byTalks(int knowing, int day, int first, int last) {
-            if (!isByTalks || talksOn[day] == 0) {
+            if (!isByTalks || talksOn[day] == 0 || first < 0) {
                 return knowing;
             }
             int after = knowing;
-            for (int i = Math.max(0, first); i < last && i < talkers.length; i++) {
+            for (int i = first; i < last && i < talkers.length; i++) {
                 boolean isHeld = (talksOn[day] >> i & 1) != 0;
                 if (isHeld && (after & talkers[i]) != 0) {
                     after |= talkers[i];
