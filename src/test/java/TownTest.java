@@ -16,158 +16,140 @@ public final class TownTest {
         c.end("TownTest");
     }
 
-    private static void fine(Check c, String text, int clauses) {
-        WhoseDay x = new WhoseDay();
-        c.due("town() of " + text, Check.town(x, text), clauses);
-        c.due("fault(0) of " + text, x.fault(0), 0);
-        c.due("fault(1) of " + text, x.fault(1), WhoseDay.NONE);
-        c.due("count(0) of " + text, x.count(0), clauses);
-    }
-
-    private static void faulty(Check c, String text, int kind, int place) {
-        WhoseDay x = new WhoseDay();
-        c.due("town() of " + text, Check.town(x, text), WhoseDay.NONE);
-        c.due("fault(0) of " + text, x.fault(0), kind);
-        c.due("fault(1) of " + text, x.fault(1), place);
-        c.due("fault(2) of " + text, x.fault(2), WhoseDay.NONE);
-        c.due("fault(-1) of " + text, x.fault(-1), WhoseDay.NONE);
-        c.due("count(0) of " + text, x.count(0), 0);
-    }
-
     private static String times(int n, String text) {
         return text.repeat(n);
     }
 
     private static void texts(Check c) {
-        fine(c, "", 0);
-        fine(c, " \n ", 0);
-        fine(c, "law 1;", 1);
-        fine(c, "law1;deep2;year3;", 3);
-        fine(c, "\nlaw\n1\n;\n", 1);
-        fine(c, "year 0028;", 1);
-        fine(c, "person alone alone;", 1);
-        fine(c, "person person alone;person dreams alone;fact person 0;", 3);
-        fine(c, "person abcdefgh;person abcdefg;", 2);
-        fine(c, TWO + "talk a b28;talk a b1;nap a27;dull a 0 0;dull a 27 27;", 7);
-        fine(c, TWO + "want a 11 27;hide b 0 0;trade a 99;trade b 0;", 6);
-        fine(c, "person a alone;nap a 0;", 2);
+        c.fine("", 0);
+        c.fine(" \n ", 0);
+        c.fine("law 1;", 1);
+        c.fine("law1;deep2;year3;", 3);
+        c.fine("\nlaw\n1\n;\n", 1);
+        c.fine("year 0028;", 1);
+        c.fine("person alone alone;", 1);
+        c.fine("person person alone;person dreams alone;fact person 0;", 3);
+        c.fine("person abcdefgh;person abcdefg;", 2);
+        c.fine(TWO + "talk a b28;talk a b1;nap a27;dull a 0 0;dull a 27 27;", 7);
+        c.fine(TWO + "want a 11 27;hide b 0 0;trade a 99;trade b 0;", 6);
+        c.fine("person a alone;nap a 0;", 2);
     }
 
     private static void syntax(Check c) {
-        faulty(c, "x", 1, 0);
-        faulty(c, " persons a;", 1, 1);
-        faulty(c, "person", 1, 6);
-        faulty(c, "person  ", 1, 8);
-        faulty(c, "person a", 1, 8);
-        faulty(c, "person ;", 1, 7);
-        faulty(c, "person 1;", 1, 7);
-        faulty(c, "person a b;", 1, 9);
-        faulty(c, "person a 1;", 1, 9);
-        faulty(c, "person a alone alone;", 1, 15);
-        faulty(c, "person a alone", 1, 14);
-        faulty(c, "person abcdefghi;", 1, 7);
-        faulty(c, "law 00001;", 1, 4);
-        faulty(c, "law 1", 1, 5);
-        faulty(c, "law 1 ", 1, 6);
-        faulty(c, "law 1 2;", 1, 6);
-        faulty(c, "law a;", 1, 4);
-        faulty(c, ";", 1, 0);
-        faulty(c, "law 1;;", 1, 6);
-        faulty(c, "law 1;\t", 1, 6);
-        faulty(c, "Law 1;", 1, 0);
-        faulty(c, "lawA1;", 1, 3);
-        faulty(c, "law 1\u00e9;", 1, 5);
-        faulty(c, "law -1;", 1, 4);
-        faulty(c, "law 1;\u0000", 1, 6);
-        faulty(c, "7", 1, 0);
-        faulty(c, TWO + "dreams a;", 1, 26);
-        faulty(c, TWO + "fact a b;", 1, 25);
-        faulty(c, TWO + "talk a 1;", 1, 25);
-        faulty(c, TWO + "dull a 1;", 1, 26);
-        faulty(c, TWO + "want a 1;", 1, 26);
+        c.faulty("x", 1, 0);
+        c.faulty(" persons a;", 1, 1);
+        c.faulty("person", 1, 6);
+        c.faulty("person  ", 1, 8);
+        c.faulty("person a", 1, 8);
+        c.faulty("person ;", 1, 7);
+        c.faulty("person 1;", 1, 7);
+        c.faulty("person a b;", 1, 9);
+        c.faulty("person a 1;", 1, 9);
+        c.faulty("person a alone alone;", 1, 15);
+        c.faulty("person a alone", 1, 14);
+        c.faulty("person abcdefghi;", 1, 7);
+        c.faulty("law 00001;", 1, 4);
+        c.faulty("law 1", 1, 5);
+        c.faulty("law 1 ", 1, 6);
+        c.faulty("law 1 2;", 1, 6);
+        c.faulty("law a;", 1, 4);
+        c.faulty(";", 1, 0);
+        c.faulty("law 1;;", 1, 6);
+        c.faulty("law 1;\t", 1, 6);
+        c.faulty("Law 1;", 1, 0);
+        c.faulty("lawA1;", 1, 3);
+        c.faulty("law 1\u00e9;", 1, 5);
+        c.faulty("law -1;", 1, 4);
+        c.faulty("law 1;\u0000", 1, 6);
+        c.faulty("7", 1, 0);
+        c.faulty(TWO + "dreams a;", 1, 26);
+        c.faulty(TWO + "fact a b;", 1, 25);
+        c.faulty(TWO + "talk a 1;", 1, 25);
+        c.faulty(TWO + "dull a 1;", 1, 26);
+        c.faulty(TWO + "want a 1;", 1, 26);
         // the too long name of nobody: the syntax goes ahead
-        faulty(c, TWO + "nap abcdefghij 1;", 1, 22);
+        c.faulty(TWO + "nap abcdefghij 1;", 1, 22);
     }
 
     private static void ranges(Check c) {
-        faulty(c, TWO + "fact a 28;", 2, 25);
-        faulty(c, TWO + "talk a b 0;", 2, 27);
-        faulty(c, TWO + "talk a b 29;", 2, 27);
-        faulty(c, TWO + "nap a 28;", 2, 24);
-        faulty(c, TWO + "dull a 28 28;", 2, 25);
-        faulty(c, TWO + "dull a 0 28;", 2, 27);
-        faulty(c, TWO + "dull a 5 4;", 2, 27);
-        faulty(c, TWO + "want a 12 0;", 2, 25);
-        faulty(c, TWO + "want a 0 28;", 2, 27);
-        faulty(c, TWO + "hide a 12 0;", 2, 25);
-        faulty(c, TWO + "hide a 0 28;", 2, 27);
-        faulty(c, TWO + "trade a 100;", 2, 26);
-        faulty(c, "law 4096;", 2, 4);
-        faulty(c, "deep 4096;", 2, 5);
-        faulty(c, "year 0;", 2, 5);
-        faulty(c, "year 29;", 2, 5);
-        faulty(c, "year 29 x", 2, 5);
-        fine(c, "law 4095;deep 4095;year 28;", 3);
+        c.faulty(TWO + "fact a 28;", 2, 25);
+        c.faulty(TWO + "talk a b 0;", 2, 27);
+        c.faulty(TWO + "talk a b 29;", 2, 27);
+        c.faulty(TWO + "nap a 28;", 2, 24);
+        c.faulty(TWO + "dull a 28 28;", 2, 25);
+        c.faulty(TWO + "dull a 0 28;", 2, 27);
+        c.faulty(TWO + "dull a 5 4;", 2, 27);
+        c.faulty(TWO + "want a 12 0;", 2, 25);
+        c.faulty(TWO + "want a 0 28;", 2, 27);
+        c.faulty(TWO + "hide a 12 0;", 2, 25);
+        c.faulty(TWO + "hide a 0 28;", 2, 27);
+        c.faulty(TWO + "trade a 100;", 2, 26);
+        c.faulty("law 4096;", 2, 4);
+        c.faulty("deep 4096;", 2, 5);
+        c.faulty("year 0;", 2, 5);
+        c.faulty("year 29;", 2, 5);
+        c.faulty("year 29 x", 2, 5);
+        c.fine("law 4095;deep 4095;year 28;", 3);
     }
 
     private static void twice(Check c) {
-        faulty(c, "person a;person a;", 3, 16);
-        faulty(c, TWO + "trade a 1;trade a 1;", 3, 34);
-        faulty(c, TWO + "person c;dreams a b;dreams a c;", 3, 45);
-        faulty(c, TWO + "person c;dreams a b;dreams c b;", 3, 47);
-        faulty(c, TWO + "dreams a a;", 3, 27);
-        faulty(c, TWO + "talk a a 1;", 3, 25);
-        faulty(c, "law 0;law 0;", 3, 6);
-        faulty(c, "deep 0;deep 0;", 3, 7);
-        faulty(c, "year 28;year 28;", 3, 8);
-        faulty(c, "law 0;law", 3, 6);
-        fine(c, TWO + "trade a 0;trade b 0;dreams a b;dreams b a;", 6);
+        c.faulty("person a;person a;", 3, 16);
+        c.faulty(TWO + "trade a 1;trade a 1;", 3, 34);
+        c.faulty(TWO + "person c;dreams a b;dreams a c;", 3, 45);
+        c.faulty(TWO + "person c;dreams a b;dreams c b;", 3, 47);
+        c.faulty(TWO + "dreams a a;", 3, 27);
+        c.faulty(TWO + "talk a a 1;", 3, 25);
+        c.faulty("law 0;law 0;", 3, 6);
+        c.faulty("deep 0;deep 0;", 3, 7);
+        c.faulty("year 28;year 28;", 3, 8);
+        c.faulty("law 0;law", 3, 6);
+        c.fine(TWO + "trade a 0;trade b 0;dreams a b;dreams b a;", 6);
     }
 
     private static void room(Check c) {
         String eight = "person a;person b;person c;person d;person e;person f;person g;person h;";
-        fine(c, eight, 8);
-        faulty(c, eight + "person i;", 4, 72);
-        faulty(c, eight + "person a;", 4, 72);
-        faulty(c, eight + " person", 4, 73);
-        fine(c, TWO + times(12, "fact a 0;"), 14);
-        faulty(c, TWO + times(13, "fact a 0;"), 4, 18 + 12 * 9);
-        fine(c, TWO + times(8, "talk a b 1;"), 10);
-        faulty(c, TWO + times(9, "talk a b 1;"), 4, 18 + 8 * 11);
-        fine(c, TWO + times(8, "nap a 0;"), 10);
-        faulty(c, TWO + times(9, "nap a 0;"), 4, 18 + 8 * 8);
-        fine(c, TWO + times(8, "dull a 0 0;"), 10);
-        faulty(c, TWO + times(9, "dull a 0 0;"), 4, 18 + 8 * 11);
-        fine(c, TWO + times(4, "want a 0 0;hide a 0 0;"), 10);
-        faulty(c, TWO + times(8, "want a 0 0;") + "hide a 0 0;", 4, 18 + 8 * 11);
-        faulty(c, TWO + times(8, "hide a 0 0;") + "want a 0 0;", 4, 18 + 8 * 11);
-        faulty(c, "person a;", 4, 9);
-        faulty(c, "person a; \n", 4, 11);
-        faulty(c, "person a alone;person b;", 4, 24);
-        faulty(c, TWO + "person c;dreams a b;dreams b a;", 4, 49);
-        fine(c, TWO + "person c alone;dreams a b;dreams b a;", 5);
-        fine(c, "person a alone;person b alone;", 2);
+        c.fine(eight, 8);
+        c.faulty(eight + "person i;", 4, 72);
+        c.faulty(eight + "person a;", 4, 72);
+        c.faulty(eight + " person", 4, 73);
+        c.fine(TWO + times(12, "fact a 0;"), 14);
+        c.faulty(TWO + times(13, "fact a 0;"), 4, 18 + 12 * 9);
+        c.fine(TWO + times(8, "talk a b 1;"), 10);
+        c.faulty(TWO + times(9, "talk a b 1;"), 4, 18 + 8 * 11);
+        c.fine(TWO + times(8, "nap a 0;"), 10);
+        c.faulty(TWO + times(9, "nap a 0;"), 4, 18 + 8 * 8);
+        c.fine(TWO + times(8, "dull a 0 0;"), 10);
+        c.faulty(TWO + times(9, "dull a 0 0;"), 4, 18 + 8 * 11);
+        c.fine(TWO + times(4, "want a 0 0;hide a 0 0;"), 10);
+        c.faulty(TWO + times(8, "want a 0 0;") + "hide a 0 0;", 4, 18 + 8 * 11);
+        c.faulty(TWO + times(8, "hide a 0 0;") + "want a 0 0;", 4, 18 + 8 * 11);
+        c.faulty("person a;", 4, 9);
+        c.faulty("person a; \n", 4, 11);
+        c.faulty("person a alone;person b;", 4, 24);
+        c.faulty(TWO + "person c;dreams a b;dreams b a;", 4, 49);
+        c.fine(TWO + "person c alone;dreams a b;dreams b a;", 5);
+        c.fine("person a alone;person b alone;", 2);
         // what is cut off goes ahead of what has no turning
-        faulty(c, "person a;law", 1, 12);
+        c.faulty("person a;law", 1, 12);
     }
 
     private static void unknown(Check c) {
-        faulty(c, "fact a 0;", 5, 5);
-        faulty(c, TWO + "fact c 0;", 5, 23);
-        faulty(c, TWO + "talk c a 1;", 5, 23);
-        faulty(c, TWO + "talk a c 1;", 5, 25);
-        faulty(c, TWO + "nap c 0;", 5, 22);
-        faulty(c, TWO + "dull c 0 0;", 5, 23);
-        faulty(c, TWO + "want c 0 0;", 5, 23);
-        faulty(c, TWO + "hide c 0 0;", 5, 23);
-        faulty(c, TWO + "trade c 0;", 5, 24);
-        faulty(c, TWO + "dreams c a;", 5, 25);
-        faulty(c, TWO + "dreams a c;", 5, 27);
-        faulty(c, TWO + "person c alone;dreams c a;", 5, 40);
-        faulty(c, TWO + "person c alone;dreams a c;", 5, 42);
-        faulty(c, "fact a 0;person a;person b;", 5, 5);
-        faulty(c, TWO + "talk c c 1;", 5, 23);
-        faulty(c, TWO + "fact ab 0;", 5, 23);
+        c.faulty("fact a 0;", 5, 5);
+        c.faulty(TWO + "fact c 0;", 5, 23);
+        c.faulty(TWO + "talk c a 1;", 5, 23);
+        c.faulty(TWO + "talk a c 1;", 5, 25);
+        c.faulty(TWO + "nap c 0;", 5, 22);
+        c.faulty(TWO + "dull c 0 0;", 5, 23);
+        c.faulty(TWO + "want c 0 0;", 5, 23);
+        c.faulty(TWO + "hide c 0 0;", 5, 23);
+        c.faulty(TWO + "trade c 0;", 5, 24);
+        c.faulty(TWO + "dreams c a;", 5, 25);
+        c.faulty(TWO + "dreams a c;", 5, 27);
+        c.faulty(TWO + "person c alone;dreams c a;", 5, 40);
+        c.faulty(TWO + "person c alone;dreams a c;", 5, 42);
+        c.faulty("fact a 0;person a;person b;", 5, 5);
+        c.faulty(TWO + "talk c c 1;", 5, 23);
+        c.faulty(TWO + "fact ab 0;", 5, 23);
     }
 
     /** A town stays, with all that rests on it, behind a text that has a fault. */

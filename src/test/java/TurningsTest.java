@@ -1,7 +1,5 @@
 /** Promises 7 to 10, 27 and 28: turnings, turn, dreams, number, ring, marry. */
 public final class TurningsTest {
-    private static final String LETTERS = "abcdefgh";
-
     public static void main(String[] args) {
         Check c = new Check();
         counts(c);
@@ -12,19 +10,11 @@ public final class TurningsTest {
         c.end("TurningsTest");
     }
 
-    private static String people(int n) {
-        StringBuilder b = new StringBuilder();
-        for (int i = 0; i < n; i++) {
-            b.append("person ").append(LETTERS.charAt(i)).append(";");
-        }
-        return b.toString();
-    }
-
     private static void counts(Check c) {
         int[] due = {1, 0, 1, 2, 9, 44, 265, 1854, 14833};
         for (int n = 0; n <= 8; n++) {
             if (n != 1) {
-                WhoseDay x = Check.in(people(n));
+                WhoseDay x = Check.in(Check.people(n));
                 c.due("turnings() of " + n, x.turnings(), due[n]);
                 c.due("turn of the last", x.turn(due[n] - 1), 1);
                 c.due("turn beyond", x.turn(due[n]), WhoseDay.RANGE);
@@ -35,21 +25,12 @@ public final class TurningsTest {
         }
     }
 
-    private static String row(WhoseDay x) {
-        StringBuilder b = new StringBuilder();
-        for (int p = 0; p < x.told(0); p++) {
-            int dreamt = x.dreams(p);
-            b.append(dreamt == WhoseDay.NONE ? "o" : String.valueOf(dreamt));
-        }
-        return b.toString();
-    }
-
     private static void rows(Check c) {
         String[] due = {"1032", "1230", "1302", "2031", "2301", "2310", "3012", "3201", "3210"};
-        WhoseDay x = Check.in(people(4));
+        WhoseDay x = Check.in(Check.people(4));
         for (int i = 0; i < due.length; i++) {
             x.turn(i);
-            c.due(row(x) + " is row " + i, row(x).compareTo(due[i]), 0);
+            c.due(Check.row(x) + " is row " + i, Check.row(x).compareTo(due[i]), 0);
             c.due("number() of " + due[i], Check.number(x, due[i]), i);
         }
         x.turn(3);
@@ -63,11 +44,11 @@ public final class TurningsTest {
         c.due("dreams(4)", x.dreams(4), WhoseDay.RANGE);
         c.due("dreams(-1)", x.dreams(-1), WhoseDay.RANGE);
         c.due("dreams(MIN)", x.dreams(Integer.MIN_VALUE), WhoseDay.RANGE);
-        WhoseDay eight = Check.in(people(8));
+        WhoseDay eight = Check.in(Check.people(8));
         for (int i = 0; i < 14833; i += 977) {
-            WhoseDay y = i % 2 == 0 ? eight : Check.in(people(8));
+            WhoseDay y = i % 2 == 0 ? eight : Check.in(Check.people(8));
             y.turn(i);
-            c.due("number() of row " + i, Check.number(Check.in(people(8)), row(y)), i);
+            c.due("number() of row " + i, Check.number(Check.in(Check.people(8)), Check.row(y)), i);
         }
     }
 
@@ -78,7 +59,7 @@ public final class TurningsTest {
         String[] due = {"2o043", "3o042", "4o023"};
         for (int i = 0; i < 3; i++) {
             x.turn(i);
-            c.due(row(x) + " is row " + i, row(x).compareTo(due[i]), 0);
+            c.due(Check.row(x) + " is row " + i, Check.row(x).compareTo(due[i]), 0);
             c.due("number() of " + due[i], Check.number(x, due[i]), i);
         }
         c.due("dreams(1)", x.dreams(1), WhoseDay.NONE);
@@ -93,7 +74,7 @@ public final class TurningsTest {
     }
 
     private static void rings(Check c) {
-        WhoseDay x = Check.in(people(8));
+        WhoseDay x = Check.in(Check.people(8));
         String[] rows = {"10325476", "12345670", "12045673", "76543210", "12340675"};
         int[] many = {4, 1, 2, 4, 2};
         int[] ofFirst = {2, 8, 3, 2, 5};
@@ -112,9 +93,9 @@ public final class TurningsTest {
     }
 
     private static void marrying(Check c) {
-        WhoseDay x = Check.in(people(4) + "person e alone;");
+        WhoseDay x = Check.in(Check.people(4) + "person e alone;");
         x.turn(Check.number(x, "1032o"));
-        c.due("marry(0, 2)", x.marry(0, 2), Check.number(Check.in(people(4)), "3012"));
+        c.due("marry(0, 2)", x.marry(0, 2), Check.number(Check.in(Check.people(4)), "3012"));
         c.due("marry(2, 0)", x.marry(2, 0), 6);
         c.due("marry(0, 1), who would dream themselves", x.marry(0, 1), WhoseDay.NONE);
         c.due("the turning stays", x.dreams(0), 1);
@@ -123,7 +104,7 @@ public final class TurningsTest {
         c.due("marry(4, 0)", x.marry(4, 0), WhoseDay.RANGE);
         c.due("marry(0, 5)", x.marry(0, 5), WhoseDay.RANGE);
         c.due("marry(-1, 0)", x.marry(-1, 0), WhoseDay.RANGE);
-        WhoseDay y = Check.in(people(4) + "dreams a b;");
+        WhoseDay y = Check.in(Check.people(4) + "dreams a b;");
         y.turn(0);
         c.due("marry(0, 2) against what is told", y.marry(0, 2), WhoseDay.NONE);
     }
