@@ -1516,16 +1516,18 @@ public final class WhoseDay {
         }
 
         private int byNaps(int knowing, int day) {
-            if (!isByNaps || napsOn[day] == 0) {
+            if (!isByNaps || day < 0 || day >= DAYS || napsOn[day] == 0) {
                 return knowing;
             }
             int after = knowing;
             int dull = dullOn[day] | moreDull;
             for (int i = 0; i < nappers.length; i++) {
-                if ((napsOn[day] >> i & 1) != 0) {
-                    int other = dreamt[nappers[i]];
+                int napper = nappers[i];
+                boolean isHeld = (napsOn[day] >> i & 1) != 0;
+                if (isHeld && napper >= 0 && napper < dreamt.length) {
+                    int other = dreamt[napper];
                     if (other != NONE && ((after & ~dull) >> other & 1) != 0) {
-                        after |= 1 << nappers[i];
+                        after |= 1 << napper;
                     }
                 }
             }
@@ -1534,11 +1536,11 @@ public final class WhoseDay {
 
         /** By those talks of the day whose numbers are from the first up to below the last. */
         private int byTalks(int knowing, int day, int first, int last) {
-            if (!isByTalks || talksOn[day] == 0 || first < 0) {
+            if (!isByTalks || day < 0 || day >= DAYS || talksOn[day] == 0) {
                 return knowing;
             }
             int after = knowing;
-            for (int i = first; i < last && i < talkers.length; i++) {
+            for (int i = first; i >= 0 && i < last && i < talkers.length; i++) {
                 boolean isHeld = (talksOn[day] >> i & 1) != 0;
                 if (isHeld && (after & talkers[i]) != 0) {
                     after |= talkers[i];

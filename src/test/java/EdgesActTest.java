@@ -204,6 +204,32 @@ public final class EdgesActTest {
         nap.act(0, 3, 1, 0, 1);
         c.due("by a nap", nap.fit(0, 0), 1);
         c.due("by a nap, the least", nap.fit(0, 1), 1);
+        // two waits: for a who is dull, for a talk of a deep fact
+        WhoseDay dull = Check.in(THREE + "dull a 3 9;");
+        dull.act(0, 10, 1, 0, 0);
+        c.due("ahead of the night behind dull days", dull.fit(0, 0), 2);
+        dull.act(0, 11, 1, 0, 1);
+        c.due("behind that night", dull.fit(0, 0), 1);
+        WhoseDay deep = Check.in(THREE + "deep 1;talk a b 11;");
+        deep.act(0, 11, 1, 0, 1);
+        c.due("by a talk, late", deep.fit(0, 0), 2);
+        c.says("III: FIT ..: all that is known is so (of each FACT)");
+        WhoseDay facts = Check.in(Check.people(4) + "fact a 27;".repeat(10) + "fact c 3;fact a 3;");
+        // b dreams a by turnings 0, 3, 6; d dreams c by 0, 2, 6
+        facts.act(1, 4, 3, 10, 1);
+        c.due("fact 10", facts.fit(1, 0), 3);
+        c.due("fact 10, the greatest", facts.fit(1, 2), 6);
+        facts.act(2, 4, 1, 11, 1);
+        c.due("facts 10 and 11", facts.fit(2, 0), 2);
+        c.due("facts 10 and 11, the greatest", facts.fit(2, 2), 6);
+        facts.right(3, 1, 0);
+        c.due("fact 10, not fact 11", facts.fit(3, 0), 1);
+        c.due("fact 10, not fact 11, the least", facts.fit(3, 1), 2);
+        WhoseDay atOnce = Check.in(Check.people(4) + "fact c 3;fact a 3;");
+        atOnce.act(1, 4, 3, 0, 1);
+        atOnce.act(1, 4, 1, 1, 0);
+        c.due("two facts at once", atOnce.fit(1, 0), 1);
+        c.due("two facts at once, the least", atOnce.fit(1, 1), 2);
         WhoseDay both = Check.in(FOUR);
         both.act(0, 4, 1, 0, 1);
         both.act(0, 5, 2, 0, 1);
@@ -408,6 +434,8 @@ public final class EdgesActTest {
             c.due("surely behind " + d[0], x.knowers(0, d[0], 0, 0), d[1]);
             c.due("perhaps behind " + d[0], x.knowers(0, d[0], 0, 1), d[2]);
         }
+        c.due("perhaps by the first of two", Check.in(THREE).knowers(0, 3, 0, 1), 7);
+        c.due("surely by both", Check.in(THREE).knowers(0, 4, 0, 0), 7);
         x.act(5, 4, 1, 0, 1);
         // 1032 2031 3012: b in night 3, then nobody, d, c
         int[][] then = {{3, 3, 3}, {4, 3, 15}, {5, 3, 15}, {27, 3, 15}};
@@ -422,6 +450,9 @@ public final class EdgesActTest {
         c.due("surely ahead of the last night", two.knowers(1, 26, 0, 0), 0);
         c.due("surely behind the last night", two.knowers(1, 27, 0, 0), 3);
         c.due("all eight", Check.in(Check.people(8) + "fact a 0;").knowers(0, 0, 0, 1), 255);
+        WhoseDay more = Check.in(THREE + "fact c 9;");
+        c.due("another fact", more.knowers(1, 9, 0, 0), 4);
+        c.due("another fact, perhaps", more.knowers(1, 9, 0, 1), 7);
         c.due("those alone", Check.in("person a alone;person b alone;fact b 4;").knowers(0, 4, 0, 0), 2);
     }
 

@@ -71,6 +71,9 @@ public final class EdgesDayTest {
         coming(c, TWO + "fact a 27;nap b 27;", 1, NAPS, 27, 1, 0);
         coming(c, TWO + "fact a 3;nap a 4;", 1, NAPS, NEVER);
         coming(c, TWO + "fact a 3;nap b 9;nap b 5;nap b 7;", 1, NAPS, 5, 1, 0);
+        // naps of other days are no naps of this one
+        coming(c, TWO + "fact a 3;nap a 4;nap b 6;", 1, NAPS, 6, 1, 0);
+        coming(c, TWO + "fact a 3;nap b 6;nap a 4;", 1, NAPS, 6, 1, 0);
         // who naps dreams one alone, not all
         coming(c, THREE + "fact a 3;nap b 4;", 1, NAPS, NEVER);
         coming(c, THREE + "fact a 3;nap c 4;", 2, NAPS, 4, 1, 0);
@@ -116,6 +119,10 @@ public final class EdgesDayTest {
                 coming(c, TWO + "fact a " + day + ";talk a b " + n + ";", 1, TALKS, due);
             }
         }
+        // talks of other days are no talks of this one
+        coming(c, THREE + "fact a 3;talk b c 1;talk a b 5;", 1, TALKS, 5, 2, 0);
+        coming(c, THREE + "fact a 3;talk b c 1;talk a b 5;", 2, TALKS, 6, 2, 1);
+        coming(c, THREE + "fact a 3;talk a b 5;talk b c 1;", 2, TALKS, 5, 2, 1);
         c.says("II: (3) TALKS ..: both then know what either knew");
         coming(c, TWO + "fact b 3;talk a b 5;", 0, TALKS, 5, 2, 1);
         coming(c, TWO + "fact b 3;talk b a 5;", 0, TALKS, 5, 2, 1);
@@ -287,6 +294,8 @@ public final class EdgesDayTest {
         c.says("13: The first DAY behind which all know a FACT (those alone, too) by WAYS");
         c.due("all(0, 7)", Check.in(TWO + "fact a 3;").all(0, 7), 3);
         c.due("all(0, 7) of three", Check.in(THREE + "fact a 3;").all(0, 7), 4);
+        c.due("all(0, 7) of three, a the last", Check.in(THREE + "fact c 3;").all(0, 7), 4);
+        c.due("all(0, 7) of three, c the last", Check.in(THREE + "fact b 3;").all(0, 7), 4);
         c.due("all(0, 7) with one alone", Check.in(TWO + "person c alone;fact a 3;").all(0, 7), WhoseDay.NONE);
         c.due("all(0, 7) with one alone who talks", Check.in(TWO + "person c alone;fact a 3;talk a c 5;").all(0, 7), 5);
         c.due("all(0, 0) of one alone", Check.in("person a alone;fact a 3;").all(0, 0), 3);

@@ -94,6 +94,11 @@ public final class EdgesLotTest {
         c.says("30: .. of a FACT behind a DAY, by all WAYS");
         share(c, Check.in(Check.people(2) + "fact a 3;deep 1;talk a b 5;"), 4, 0, 1, 1);
         share(c, Check.in(Check.people(2) + "fact a 3;deep 1;talk a b 5;"), 5, 0, 2, 1);
+        share(c, Check.in(Check.people(2) + "fact a 3;deep 1;talk a b 25;"), 24, 0, 1, 1);
+        share(c, Check.in(Check.people(2) + "fact a 3;deep 1;talk a b 25;"), 25, 0, 2, 1);
+        share(c, Check.in(Check.people(2) + "fact a 3;dull a 3 19;"), 19, 0, 1, 1);
+        share(c, Check.in(Check.people(2) + "fact a 3;dull a 3 19;"), 20, 0, 2, 1);
+        share(c, Check.in(Check.people(3) + "fact c 3;dull c 3 19;"), 21, 1, 1, 1);
         share(c, Check.in(Check.people(2) + "fact a 3;dull a 3 27;nap b 4;"), 27, 0, 1, 1);
         share(c, Check.in(Check.people(2) + "fact a 3;dull a 3 3;nap b 4;"), 4, 0, 2, 1);
     }

@@ -292,11 +292,13 @@ public final class EdgesTextTest {
         c.says("I: 3 TWICE: the first name of a dreams that dreams already");
         c.faulty(Check.people(3) + "dreams a b;dreams a c;", TWICE, 45);
         c.faulty(Check.people(3) + "dreams a b;dreams a b;", TWICE, 45);
+        c.faulty(Check.people(4) + "dreams a b;dreams b c;dreams a d;", TWICE, 65);
         c.fine(Check.people(3) + "dreams a b;dreams b c;", 5);
         c.says("I: 3 TWICE: the second one that is the first");
         c.faulty(TWO + "dreams b b;", TWICE, 27);
         c.says("I: 3 TWICE: the second one that .. is dreamt already");
         c.faulty(Check.people(3) + "dreams a b;dreams c b;", TWICE, 47);
+        c.faulty(Check.people(4) + "dreams a b;dreams b c;dreams d b;", TWICE, 67);
         c.fine(Check.people(4) + "dreams a b;dreams b a;", 6);
         c.says("I: 3 TWICE: the second name of a talk that is its first");
         c.faulty(TWO + "talk a a 1;", TWICE, 25);

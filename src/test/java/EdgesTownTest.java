@@ -8,6 +8,8 @@ public final class EdgesTownTest {
         howManyClauses(c);
         withAFaultItStays(c);
         allBeginsAnew(c);
+        nothingStays(c);
+        turningsAnew(c);
         theFault(c);
         noOtherFault(c);
         toldNumbers(c);
@@ -117,22 +119,59 @@ public final class EdgesTownTest {
                 c.due("act at step 0", x.act(0, 1, 0, 0, 1), 0);
             }
         }
-        c.says("4: THE TAPE is a TOWN (nothing of the former one stays)");
-        WhoseDay x = Check.in(Check.people(3) + "person d alone;dreams a b;fact a 1;talk a b 2;nap b 3;want c 0 9;"
-            + "trade a 7;trade b 8;dull c 5 6;law 2;deep 1;year 4;");
-        c.due("town()", Check.town(x, Check.people(4) + "fact b 0;"), 5);
-        int[] told = {4, 1, 0, 0, 0, 28};
-        for (int what = 0; what < told.length; what++) {
-            c.due("told(" + what + ")", x.told(what), told[what]);
+    }
+
+    private static final String RICH = Check.people(3) + "person d alone;dreams a b;fact a 1;fact a 2;talk a b 2;nap b 3;"
+        + "want c 0 9;hide c 0 9;trade a 7;trade b 8;dull c 5 6;law 3;deep 3;year 4;";
+
+    private static void nothingStays(Check c) {
+        c.says("4: THE TAPE is a TOWN (nothing of former ones, or of a text with a FAULT, stays)");
+        // behind one, two and three others, and with faults between
+        String[][] former = {{RICH}, {RICH, ""}, {"", RICH}, {RICH, RICH, RICH}, {RICH + "?"}, {"", RICH + "?"},
+            {RICH, "law 1;", RICH + "law 1;"}};
+        for (String[] texts : former) {
+            WhoseDay x = new WhoseDay();
+            for (String text : texts) {
+                Check.town(x, text);
+            }
+            c.due("town()", Check.town(x, Check.people(4) + "fact b 0;"), 5);
+            int[] told = {4, 1, 0, 0, 0, 28};
+            for (int what = 0; what < told.length; what++) {
+                c.due("told(" + what + ")", x.told(what), told[what]);
+            }
+            c.due("told(13)", x.told(13), 0);
+            c.due("told(20)", x.told(20), WhoseDay.NONE);
+            c.due("turnings()", x.turnings(), 9);
+            c.due("wishes()", x.wishes(), 0);
+            c.due("skill(0, 27)", x.skill(0, 27), 0);
+            c.due("not deep", x.comes(0, 0, 1, 0), 0);
+            c.due("not dull", x.said(2, 3, 5), 5);
+            c.due("no talk, no nap", x.comes(0, 0, 6, 0), WhoseDay.NONE);
+            c.due("trade, dreams, law, deep, year are told again", Check.town(x, RICH), 17);
         }
-        c.due("told(13)", x.told(13), 0);
-        c.due("told(20)", x.told(20), WhoseDay.NONE);
-        c.due("turnings()", x.turnings(), 9);
-        c.due("wishes()", x.wishes(), 0);
-        c.due("skill(0, 27)", x.skill(0, 27), 0);
-        c.due("not deep any more", x.comes(0, 0, 1, 0), 0);
-        c.due("not dull any more", x.said(2, 3, 5), 5);
-        c.due("trade, deep, law, year told again", Check.town(x, Check.people(2) + "trade a 1;law 1;deep 1;year 1;"), 6);
+    }
+
+    private static void turningsAnew(Check c) {
+        c.says("4: THE TAPE is a TOWN (what is asked of all TURNINGS is asked anew)");
+        WhoseDay x = new WhoseDay();
+        for (int i = 0; i < 3; i++) {
+            Check.town(x, Check.people(3) + "fact a 3;");
+            c.due("surely behind day 3", x.knowers(0, 3, 0, 0), 1);
+            c.due("lot behind day 4", x.lot(0, 4, 0, false), 3);
+            c.due("ask(0)", x.ask(0), 1);
+            c.due("ask(2)", x.ask(2), 4);
+            Check.town(x, Check.people(3) + "fact c 9;");
+            c.due("surely behind day 9", x.knowers(0, 9, 0, 0), 4);
+            c.due("lot behind day 4", x.lot(0, 4, 0, false), 0);
+            c.due("ask(0)", x.ask(0), 0);
+            c.due("ask(2)", x.ask(2), 10);
+            Check.town(x, Check.people(5) + "fact a 3;");
+            c.due("fit(0, 0)", x.fit(0, 0), 44);
+            c.due("perhaps", x.knowers(0, 3, 0, 1), 31);
+            Check.town(x, "person a;person b;person c alone;person d alone;fact c 0;");
+            c.due("who was dreamt is alone now", x.knows(3, 27, 7), 0);
+            c.due("perhaps", x.knowers(0, 27, 0, 1), 4);
+        }
     }
 
     private static void theFault(Check c) {
@@ -438,8 +477,8 @@ public final class EdgesTownTest {
         c.due("ring(-1) of nothing", new WhoseDay().ring(-1), 0);
         c.due("ring(-1) of those alone", Check.in("person a alone;").ring(-1), 0);
         WhoseDay x = Check.in(Check.people(8));
-        String[] rows = {"10325476", "12345670", "12045673", "12305674", "76543210", "10345672"};
-        int[] due = {4, 1, 2, 2, 4, 2};
+        String[] rows = {"10325476", "12345670", "12045673", "12305674", "76543210", "10345672", "23456701"};
+        int[] due = {4, 1, 2, 2, 4, 2, 2};
         for (int i = 0; i < rows.length; i++) {
             Check.turn(x, rows[i]);
             c.due("ring(-1) of " + rows[i], x.ring(-1), due[i]);

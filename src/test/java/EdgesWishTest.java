@@ -214,6 +214,7 @@ public final class EdgesWishTest {
         c.due("who is dull understands", x.said(6, 7, 0), 0);
         c.due("who is dull on all days makes none", x.said(7, 0, 0), WhoseDay.NONE);
         c.due("nor makes one on", x.said(6, 0, 0), WhoseDay.NONE);
+        c.due("nor does it come on over him", x.said(6, 1, 0), WhoseDay.NONE);
     }
 
     private static void saidNone(Check c) {
@@ -229,6 +230,7 @@ public final class EdgesWishTest {
         c.due("to one alone", y.said(0, 4, 0), WhoseDay.NONE);
         c.due("from one alone", y.said(4, 0, 0), WhoseDay.NONE);
         c.due("among those alone", y.said(4, 5, 0), WhoseDay.NONE);
+        c.due("among those alone, the other way", y.said(5, 4, 0), WhoseDay.NONE);
         c.due("dull to the end", Check.in(Check.people(2) + "dull a 4 27;").said(0, 1, 4), WhoseDay.NONE);
         c.due("dull but for the last day", Check.in(Check.people(2) + "dull a 4 26;").said(0, 1, 4), 27);
     }
