@@ -239,7 +239,8 @@ public final class EdgesActTest {
     }
 
     private static void fitAsKnown(Check c) {
-        c.says("III: FIT as known at a STEP; 17: what 0: how many, 1: the least number (NONE), 2: the greatest (NONE)");
+        c.says("III: FIT as known at a STEP; 17: what 0: how many, 1: the least number (NONE), 2: the "
+            + "greatest (NONE)");
         for (int step : new int[] {0, 1, 500, 999}) {
             WhoseDay x = Check.in(FOUR);
             x.act(step, 4, 1, 0, 1);
@@ -427,7 +428,8 @@ public final class EdgesActTest {
     // ---- 20
 
     private static void surelyAndPerhaps(Check c) {
-        c.says("III: SURELY: who knows a FACT behind a DAY (its NIGHT) by all TURNINGS that FIT; PERHAPS: by one of them at least");
+        c.says("III: SURELY: who knows a FACT behind a DAY (its NIGHT) by all TURNINGS that FIT; PERHAPS: by "
+            + "one of them at least");
         WhoseDay x = Check.in(FOUR);
         int[][] due = {{0, 0, 0}, {2, 0, 0}, {3, 1, 15}, {4, 1, 15}, {27, 1, 15}};
         for (int[] d : due) {

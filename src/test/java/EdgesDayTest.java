@@ -71,6 +71,8 @@ public final class EdgesDayTest {
         coming(c, TWO + "fact a 27;nap b 27;", 1, NAPS, 27, 1, 0);
         coming(c, TWO + "fact a 3;nap a 4;", 1, NAPS, NEVER);
         coming(c, TWO + "fact a 3;nap b 9;nap b 5;nap b 7;", 1, NAPS, 5, 1, 0);
+        coming(c, TWO + "fact b 3;nap a 5;", 0, NAPS, 5, 1, 1);
+        coming(c, Check.people(8) + "fact g 3;nap h 5;", 7, NAPS, 5, 1, 6);
         // naps of other days are no naps of this one
         coming(c, TWO + "fact a 3;nap a 4;nap b 6;", 1, NAPS, 6, 1, 0);
         coming(c, TWO + "fact a 3;nap b 6;nap a 4;", 1, NAPS, 6, 1, 0);
@@ -223,6 +225,12 @@ public final class EdgesDayTest {
             }
             c.due("all(0, " + ways + ")", x.all(0, ways), due[ways][0]);
         }
+        // all three on one day: a nap goes ahead of a talk, a talk ahead of the night
+        WhoseDay y = Check.in(TWO + "fact a 3;nap b 3;talk a b 3;");
+        int[] way = {-1, 3, 2, 2, 1, 1, 1, 1};
+        for (int ways = 0; ways < 8; ways++) {
+            c.due("comes(1, 0, " + ways + ", 1) on one day", y.comes(1, 0, ways, 1), way[ways]);
+        }
     }
 
     // ---- 11 to 13
@@ -297,7 +305,8 @@ public final class EdgesDayTest {
         c.due("all(0, 7) of three, a the last", Check.in(THREE + "fact c 3;").all(0, 7), 4);
         c.due("all(0, 7) of three, c the last", Check.in(THREE + "fact b 3;").all(0, 7), 4);
         c.due("all(0, 7) with one alone", Check.in(TWO + "person c alone;fact a 3;").all(0, 7), WhoseDay.NONE);
-        c.due("all(0, 7) with one alone who talks", Check.in(TWO + "person c alone;fact a 3;talk a c 5;").all(0, 7), 5);
+        c.due("all(0, 7) with one alone who talks",
+            Check.in(TWO + "person c alone;fact a 3;talk a c 5;").all(0, 7), 5);
         c.due("all(0, 0) of one alone", Check.in("person a alone;fact a 3;").all(0, 0), 3);
         c.due("all(0, 7) on day 0", Check.in(TWO + "fact a 0;").all(0, 7), 0);
         c.due("all(0, 7) on day 27", Check.in(TWO + "fact a 27;").all(0, 7), 27);
@@ -327,7 +336,8 @@ public final class EdgesDayTest {
     // ---- 14
 
     private static void judgedAheadOfTheNight(Check c) {
-        c.says("II: JUDGED: .. on which he acts at that DAY's end, ahead of THE NIGHT: RIGHT, if he knows it then (by all WAYS)");
+        c.says("II: JUDGED: .. on which he acts at that DAY's end, ahead of THE NIGHT: RIGHT, if he knows it "
+            + "then (by all WAYS)");
         WhoseDay x = Check.in(TWO + "person c alone;person d;fact a 4;fact a 4;nap b 5;talk a c 6;dreams b a;law 2;deep 2;");
         c.due("by itself", Check.judge(x, "4 0 0;"), 1);
         c.due("the day ahead", Check.judge(x, "3 0 0;"), -1);

@@ -124,7 +124,8 @@ public final class EdgesLotTest {
     // ---- 31
 
     private static void theMeanDay(Check c) {
-        c.says("III: the mean of the first DAY behind which all know it; 31: the upper number by least numbers (or the lower one)");
+        c.says("III: the mean of the first DAY behind which all know it; 31: the upper number by least "
+            + "numbers (or the lower one)");
         share(c, Check.in(Check.people(2) + "fact a 0;"), 0, 2, 0, 1);
         share(c, Check.in(Check.people(2) + "fact a 27;"), 0, 2, 27, 1);
         share(c, Check.in(Check.people(3) + "fact a 3;"), 0, 2, 4, 1);
@@ -158,7 +159,8 @@ public final class EdgesLotTest {
     // ---- 32
 
     private static void ringsInHowManyWays(Check c) {
-        c.says("III: RINGS: of n people all of whom dream: in how many ways (none dreams himself) the rings have told lengths");
+        c.says("III: RINGS: of n people all of whom dream: in how many ways (none dreams himself) the rings "
+            + "have told lengths");
         WhoseDay x = new WhoseDay();
         long[] oneRing = new long[21];
         oneRing[2] = 1;

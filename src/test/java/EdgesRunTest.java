@@ -171,7 +171,8 @@ public final class EdgesRunTest {
     }
 
     private static void behindTheLastDay(Check c) {
-        c.says("IV: behind the last DAY of each year .. the TURNING of the RUN becomes the one of the number that is drawn");
+        c.says("IV: behind the last DAY of each year .. the TURNING of the RUN becomes the one of the number "
+            + "that is drawn");
         WhoseDay other = Check.in(Check.people(8));
         for (int year : new int[] {1, 2, 7, 27, 28}) {
             WhoseDay x = Check.in(Check.people(8) + "year " + year + ";");
@@ -194,7 +195,8 @@ public final class EdgesRunTest {
     }
 
     private static void theSeed(Check c) {
-        c.says("IV: s becomes (1103515245 times s and 12345) modulo 2147483648 each time; what is drawn of n is s over 65536 (cut), modulo n");
+        c.says("IV: s becomes (1103515245 times s and 12345) modulo 2147483648 each time; what is drawn of n "
+            + "is s over 65536 (cut), modulo n");
         for (int people : new int[] {3, 4, 8}) {
             for (int seed : SEEDS) {
                 WhoseDay other = Check.in(Check.people(people));
@@ -476,7 +478,8 @@ public final class EdgesRunTest {
     // ---- 39
 
     private static void counts(Check c) {
-        c.says("39: What 0: clauses of the TOWN, 1: ACTS, 2: puttings RIGHT, 3: DAYS that passed in the RUN (0 without), 4: bytes of THE TAPE");
+        c.says("39: What 0: clauses of the TOWN, 1: ACTS, 2: puttings RIGHT, 3: DAYS that passed in the RUN "
+            + "(0 without), 4: bytes of THE TAPE");
         WhoseDay x = Check.in(Check.people(2) + "fact a 0;fact b 0;year 3;");
         int[] none = {5, 0, 0, 0, 0};
         for (int what = 0; what < none.length; what++) {

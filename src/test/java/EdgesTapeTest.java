@@ -4,6 +4,7 @@ public final class EdgesTapeTest {
 
     public static void main(String[] args) {
         Check c = new Check();
+        theConstants(c);
         aNewObject(c);
         bytesOfAnInt(c);
         behindTheTape(c);
@@ -22,6 +23,14 @@ public final class EdgesTapeTest {
 
     private static int blanks(WhoseDay x) {
         return x.feed(BLANKS, BLANKS, BLANKS, BLANKS, BLANKS);
+    }
+
+    private static void theConstants(Check c) {
+        c.says("The constants: NONE = -1, RANGE = -2, FULL = -3, STATE = -4");
+        c.due("NONE", WhoseDay.NONE, -1);
+        c.due("RANGE", WhoseDay.RANGE, -2);
+        c.due("FULL", WhoseDay.FULL, -3);
+        c.due("STATE", WhoseDay.STATE, -4);
     }
 
     private static void aNewObject(Check c) {

@@ -175,7 +175,8 @@ public final class EdgesTownTest {
     }
 
     private static void theFault(Check c) {
-        c.says("5: Of the latest town(), what 0: its FAULT's KIND, 0 without (and ahead of any), 1: its PLACE (NONE)");
+        c.says("5: Of the latest town(), what 0: its FAULT's KIND, 0 without (and ahead of any), 1: its PLACE "
+            + "(NONE)");
         WhoseDay x = new WhoseDay();
         c.due("fault(0) ahead of any", x.fault(0), 0);
         c.due("fault(1) ahead of any", x.fault(1), WhoseDay.NONE);
@@ -297,7 +298,8 @@ public final class EdgesTownTest {
             String text = "person z alone;" + Check.people(n);
             c.due("turnings() of " + n + " and one alone", Check.in(text).turnings(), TURNINGS[n]);
         }
-        c.due("turnings() all told", Check.in(Check.people(4) + "dreams a b;dreams b c;dreams c d;dreams d a;").turnings(), 1);
+        c.due("turnings() all told",
+            Check.in(Check.people(4) + "dreams a b;dreams b c;dreams c d;dreams d a;").turnings(), 1);
         c.due("turnings() one told", Check.in(Check.people(4) + "dreams a b;").turnings(), 3);
         c.due("turnings() of 8, one told", Check.in(Check.people(8) + "dreams h a;").turnings(), 14833 / 7);
         c.due("turnings() of 3, one told", Check.in(Check.people(3) + "dreams a b;").turnings(), 1);
@@ -404,7 +406,8 @@ public final class EdgesTownTest {
     }
 
     private static void numberIsARow(Check c) {
-        c.says("10: THE TAPE is a row of whom each dreams (a byte each PERSON: 48 and the number, 111 (o) for one alone)");
+        c.says("10: THE TAPE is a row of whom each dreams (a byte each PERSON: 48 and the number, 111 (o) for "
+            + "one alone)");
         WhoseDay x = Check.in(Check.people(4));
         x.turn(5);
         for (int i = 0; i < FOUR_ROWS.length; i++) {

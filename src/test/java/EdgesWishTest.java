@@ -263,7 +263,8 @@ public final class EdgesWishTest {
     // ---- 25
 
     private static void overWhom(Check c) {
-        c.says("III: OVER whom it comes: the first himself, then who understood it, one behind the other, the other one the last");
+        c.says("III: OVER whom it comes: the first himself, then who understood it, one behind the other, the "
+            + "other one the last");
         WhoseDay x = Check.in(RING);
         for (int from = 0; from < 8; from++) {
             for (int steps = 1; steps < 8; steps++) {
@@ -346,7 +347,8 @@ public final class EdgesWishTest {
     }
 
     private static void skillsByNight(Check c) {
-        c.says("III: in THE NIGHT each whom the one he dreams had more SKILL than he ahead of it .. gains a quarter (cut) of what that was more");
+        c.says("III: in THE NIGHT each whom the one he dreams had more SKILL than he ahead of it .. gains a "
+            + "quarter (cut) of what that was more");
         for (int trade : new int[] {0, 1, 3, 4, 5, 7, 8, 99}) {
             WhoseDay x = Check.in(Check.people(2) + "trade a " + trade + ";");
             c.due("a quarter of " + trade, x.skill(1, 0), trade / 4);
@@ -394,7 +396,8 @@ public final class EdgesWishTest {
     // ---- 29
 
     private static void keptFewest(Check c) {
-        c.says("III: KEPT: the fewest PEOPLE who, if they are DULL on all DAYS .., keep a FACT from a PERSON up to a DAY (behind its NIGHT)");
+        c.says("III: KEPT: the fewest PEOPLE who, if they are DULL on all DAYS .., keep a FACT from a PERSON "
+            + "up to a DAY (behind its NIGHT)");
         WhoseDay x = Check.in(THREE + "fact a 3;");
         int[][] due = {{2, 0, 0}, {2, 2, 0}, {2, 3, 1}, {2, 27, 1}, {1, 3, 0}, {1, 4, 1}, {0, 2, 0}};
         for (int[] d : due) {
@@ -403,7 +406,8 @@ public final class EdgesWishTest {
         x.turn(1);
         c.due("by the other turning, b in night 3", x.kept(1, 0, 3), 1);
         c.due("by the other turning, c in night 4", x.kept(2, 0, 3), 0);
-        c.due("from e, who dreams d", Check.in(Check.people(5) + "dreams e d;dreams d e;fact a 0;talk a d 1;").kept(4, 0, 27), 8);
+        c.due("from e, who dreams d",
+            Check.in(Check.people(5) + "dreams e d;dreams d e;fact a 0;talk a d 1;").kept(4, 0, 27), 8);
         c.due("one of great bits, not two of less", Check.in(ROADS).kept(5, 0, 27), 16);
         // f is told by b, who dreams a, and by d, who dreams c
         c.due("two are needed", Check.in(Check.people(6) + "fact a 0;dreams b a;dreams d c;dreams f e;talk a c 1;"
