@@ -445,6 +445,12 @@ public final class EdgesActTest {
             c.due("surely then behind " + d[0], x.knowers(0, d[0], 5, 0), d[1]);
             c.due("perhaps then behind " + d[0], x.knowers(0, d[0], 5, 1), d[2]);
         }
+        // c dreams a by 1302, 2301, 3201
+        WhoseDay y = Check.in(FOUR);
+        c.due("surely at first", y.knowers(0, 3, 0, 0), 1);
+        y.act(5, 4, 2, 0, 1);
+        c.due("surely by those alone that fit", y.knowers(0, 3, 5, 0), 5);
+        c.due("perhaps by those alone that fit", y.knowers(0, 3, 5, 1), 5);
         c.due("surely as known at 4", x.knowers(0, 3, 4, 0), 1);
         c.due("perhaps as known at 4", x.knowers(0, 3, 4, 1), 15);
         WhoseDay two = Check.in(Check.people(2) + "fact a 0;fact a 27;");

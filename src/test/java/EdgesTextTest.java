@@ -209,11 +209,17 @@ public final class EdgesTextTest {
                 }
             }
         }
+        for (String other : new String[] {"qlone", "aqone", "alqne", "aloqe", "alonq", "alon", "alonee", "lone"}) {
+            c.faulty(TWO + "person c " + other + ";", SYNTAX, 27);
+        }
         for (String shape : SHAPES) {
             String word = shape.substring(0, shape.indexOf(' '));
             c.faulty(word.substring(0, word.length() - 1), SYNTAX, 0);
             c.faulty(word + "s", SYNTAX, 0);
             c.faulty(word.substring(1), SYNTAX, 0);
+            for (int i = 0; i < word.length(); i++) {
+                c.faulty(word.substring(0, i) + "q" + word.substring(i + 1) + shape.substring(word.length()), SYNTAX, 0);
+            }
         }
     }
 

@@ -158,6 +158,8 @@ public final class EdgesTownTest {
             Check.town(x, Check.people(3) + "fact a 3;");
             c.due("surely behind day 3", x.knowers(0, 3, 0, 0), 1);
             c.due("lot behind day 4", x.lot(0, 4, 0, false), 3);
+            c.due("the chance behind day 27", x.lot(0, 27, 1, false), 1);
+            c.due("the mean day", x.lotDay(0, false), 4);
             c.due("ask(0)", x.ask(0), 1);
             c.due("ask(2)", x.ask(2), 4);
             Check.town(x, Check.people(3) + "fact c 9;");

@@ -341,6 +341,10 @@ public final class EdgesWishTest {
             c.due("skill(0, " + day + ")", x.skill(0, day), 99 * (day + 1));
             c.due("skill(1, " + day + ")", x.skill(1, day), day + 1);
         }
+        WhoseDay eight = Check.in(RING + "trade h 8;trade g 1;");
+        c.due("the last of eight", eight.skill(7, 1), 16);
+        c.due("the last but one, whom he dreams not", eight.skill(6, 1), 2);
+        c.due("a, who dreams the last", eight.skill(0, 0), 2);
         WhoseDay y = Check.in(Check.people(2) + "trade a 0;");
         c.due("trade 0", y.skill(0, 27), 0);
         c.due("no trade", y.skill(1, 27), 0);
