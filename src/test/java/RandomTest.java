@@ -181,7 +181,7 @@ public final class RandomTest {
         for (int i = 0; i < rows; i++) {
             int day = 10 + below(18);
             int p = below(m.people());
-            int f = below(m.facts.size() + 1);
+            int f = below(Math.min(12, m.facts.size() + 1));
             book.append(day).append(" ").append(p).append("\n").append(f).append(" ;");
             boolean isRight = f < m.facts.size() && life.ahead[day][p][f];
             wrong = wrong < 0 && !isRight ? i : wrong;
